@@ -35,21 +35,6 @@ public final class FlushBoundaryTest {
         Due.end();
     }
 
-    /** The value in sector s after the first 'count' writes of Run.fill, on sectors that were 0. */
-    private static int filled(int s, int count) {
-        int value = 0;
-        for (int i = s; i < count; i += 12) {
-            value = 100 + i;
-        }
-        return value;
-    }
-
-    private static void dueFilled(Run x, int count) {
-        for (int s = 0; s < 12; s++) {
-            x.gives(s, filled(s, count));
-        }
-    }
-
     private static void flushOfNone() {
         new Run().flush(0).pending(0).durable(0).gives(0, 0);
         new Run().damage(3, 1, 1).flush(0).scrub(1).fails(3);
@@ -59,10 +44,8 @@ public final class FlushBoundaryTest {
 
     private static void flushOfAll() {
         for (int count = 1; count <= 20; count++) {
-            Run x = new Run().fill(count).flush(count).pending(0).durable(count).atRisk(0);
-            dueFilled(x, count);
-            x.crash(0, 0);
-            dueFilled(x, count);
+            new Run().fill(count).flush(count).pending(0).durable(count).atRisk(0)
+                .holdsFirst(count).crash(0, 0).holdsFirst(count);
         }
     }
 
@@ -87,10 +70,8 @@ public final class FlushBoundaryTest {
     private static void someBelow0() {
         for (int n : BELOW_0) {
             for (int count : PENDING) {
-                Run x = new Run().fill(count).flushSome(n, 0).pending(count).durable(0);
-                dueFilled(x, count);
-                x.crash(0, count);
-                dueFilled(x, 0);
+                new Run().fill(count).flushSome(n, 0).pending(count).durable(0)
+                    .holdsFirst(count).crash(0, count).holdsFirst(0);
             }
         }
         new Run().damage(0, 1, 1).fill(1).flushSome(LEAST, 0).scrub(1).gives(0, 100);
@@ -98,16 +79,14 @@ public final class FlushBoundaryTest {
 
     private static void someOf0() {
         for (int count : PENDING) {
-            Run x = new Run().fill(count).flushSome(0, 0).pending(count).durable(0).crash(0, count);
-            dueFilled(x, 0);
+            new Run().fill(count).flushSome(0, 0).pending(count).durable(0).crash(0, count).holdsFirst(0);
         }
     }
 
     private static void someAbove() {
         for (int count : PENDING) {
             for (int n : new int[] {count + 1, count + 2, 21, 256, GREATEST - 1, GREATEST}) {
-                Run x = new Run().fill(count).flushSome(n, count).pending(0).durable(count).crash(0, 0);
-                dueFilled(x, count);
+                new Run().fill(count).flushSome(n, count).pending(0).durable(count).crash(0, 0).holdsFirst(count);
             }
         }
         // Above the number of the pending ones, though not above twenty, nor above the writes made so far.
@@ -116,15 +95,13 @@ public final class FlushBoundaryTest {
 
     private static void someIsNumber() {
         for (int count : PENDING) {
-            Run x = new Run().fill(count).flushSome(count, count).pending(0).durable(count).crash(0, 0);
-            dueFilled(x, count);
+            new Run().fill(count).flushSome(count, count).pending(0).durable(count).crash(0, 0).holdsFirst(count);
         }
     }
 
     private static void someFirst() {
         for (int n = 0; n <= 20; n++) {
-            Run x = new Run().fill(20).flushSome(n, n).durable(n).crash(0, 20 - n);
-            dueFilled(x, n);
+            new Run().fill(20).flushSome(n, n).durable(n).crash(0, 20 - n).holdsFirst(n);
         }
     }
 
@@ -135,12 +112,10 @@ public final class FlushBoundaryTest {
 
     private static void someOthersStay() {
         for (int n = 0; n <= 20; n++) {
-            Run x = new Run().fill(20).flushSome(n, n).pending(20 - n);
-            dueFilled(x, 20);
+            new Run().fill(20).flushSome(n, n).pending(20 - n).holdsFirst(20);
             // In order: any further number of them is the next ones.
-            for (int more = 0; more <= 20 - n; more += 3) {
-                Run y = new Run().fill(20).flushSome(n, n).flushSome(more, more).crash(0, 20 - n - more);
-                dueFilled(y, n + more);
+            for (int more = 0; more <= 20 - n; more++) {
+                new Run().fill(20).flushSome(n, n).flushSome(more, more).crash(0, 20 - n - more).holdsFirst(n + more);
             }
         }
         // And they stand before a write that is made later.
@@ -160,8 +135,7 @@ public final class FlushBoundaryTest {
     private static void crashBelow0() {
         for (int kept : BELOW_0) {
             for (int count : PENDING) {
-                Run x = new Run().fill(count).crash(kept, count).pending(0).durable(0);
-                dueFilled(x, 0);
+                new Run().fill(count).crash(kept, count).pending(0).durable(0).holdsFirst(0);
             }
         }
         new Run().damage(0, 1, 1).fill(1).crash(LEAST, 1).scrub(1).fails(0);
@@ -170,8 +144,7 @@ public final class FlushBoundaryTest {
     private static void crashAbove() {
         for (int count : PENDING) {
             for (int kept : new int[] {count + 1, count + 2, 21, 256, GREATEST - 1, GREATEST}) {
-                Run x = new Run().fill(count).crash(kept, 0).pending(0).durable(count);
-                dueFilled(x, count);
+                new Run().fill(count).crash(kept, 0).pending(0).durable(count).holdsFirst(count);
             }
         }
         new Run().fill(20).flushSome(15, 15).crash(10, 0).durable(20).crash(GREATEST, 0).durable(20);
@@ -179,22 +152,19 @@ public final class FlushBoundaryTest {
 
     private static void crashOf0() {
         for (int count : PENDING) {
-            Run x = new Run().fill(count).crash(0, count).pending(0).durable(0).atRisk(0);
-            dueFilled(x, 0);
+            new Run().fill(count).crash(0, count).pending(0).durable(0).atRisk(0).holdsFirst(0);
         }
     }
 
     private static void crashIsNumber() {
         for (int count : PENDING) {
-            Run x = new Run().fill(count).crash(count, 0).pending(0).durable(count);
-            dueFilled(x, count);
+            new Run().fill(count).crash(count, 0).pending(0).durable(count).holdsFirst(count);
         }
     }
 
     private static void crashFirst() {
         for (int kept = 0; kept <= 20; kept++) {
-            Run x = new Run().fill(20).crash(kept, 20 - kept).durable(kept);
-            dueFilled(x, kept);
+            new Run().fill(20).crash(kept, 20 - kept).durable(kept).holdsFirst(kept);
         }
         new Run().write(8, 1, 1).write(8, 2, 2).write(8, 3, 3).crash(2, 1).gives(8, 2);
         // The first of those still pending, not the first that were ever made.

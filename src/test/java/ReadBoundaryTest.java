@@ -172,7 +172,8 @@ public final class ReadBoundaryTest {
                     boolean readableBefore = x.readable(11);
                     x.crash(0);
                     boolean differs = before != x.read(11) || readableBefore != x.readable(11);
-                    Due.is("durable " + durable + ", pending " + pending + ", bits " + bits + ": atRisk()", atRisk, differs ? 1 : 0);
+                    Due.is("durable " + durable + ", pending " + pending + ", bits " + bits + ": atRisk()",
+                        atRisk, differs ? 1 : 0);
                 }
             }
         }

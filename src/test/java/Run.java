@@ -77,6 +77,15 @@ final class Run {
         return this;
     }
 
+    /** Every sector reads as if the first 'count' writes of the sequence in fill, and no others, were ever made. */
+    Run holdsFirst(int count) {
+        for (int s = 0; s < 12; s++) {
+            int newest = count - 1 - Math.floorMod(count - 1 - s, 12);
+            gives(s, newest < 0 ? 0 : 100 + newest);
+        }
+        return this;
+    }
+
     private Run look(String call, int got, int due) {
         calls++;
         if (calls > MOST_CALLS) {

@@ -88,7 +88,7 @@ public final class TermsBoundaryTest {
         IntegrityLayer x = new IntegrityLayer();
         int[] edges = {LEAST, -1, 0, 11, 12, 20, GREATEST};
         int calls = 0;
-        for (int round = 0; round < 1000; round++) {
+        for (int round = 0; round < 5000; round++) {
             int edge = edges[round % edges.length];
             x.write(round % 12, round);
             x.write(edge, edge);
@@ -100,7 +100,8 @@ public final class TermsBoundaryTest {
             x.pending();
             x.durable();
             calls += 9;
-            if (round % 30 == 29) {
+            // Twenty rounds and more without these, so that it is full again and again.
+            if (round % 30 > 24) {
                 x.flushSome(edge);
                 x.crash(edge);
                 x.flush();
@@ -272,15 +273,19 @@ public final class TermsBoundaryTest {
         new Run().fill(20).crash(5, 15).flush(0).crash(GREATEST, 0).durable(5).atRisk(0).fill(20);
     }
 
-    /** The pending writes go round many times over twenty places, nineteen or twenty of them taken. */
+    /** The pending writes go round once and many times over twenty places, nineteen or twenty of them taken. */
     private static void wrapAround() {
-        Run x = new Run().fill(20);
-        for (int i = 20; i < 140; i++) {
-            x.flushSome(1, 1).write(i % 12, 100 + i, 20).read(i % 12, 100 + i).read((i + 1) % 12, 100 + i - 11);
+        for (int rounds : new int[] {1, 2, 18, 19, 20, 21, 22, 39, 40, 41, 60, 100, 200}) {
+            for (int kept : new int[] {0, 1, 2, 10, 19, 20}) {
+                Run x = new Run().fill(20);
+                for (int i = 20; i < 20 + rounds; i++) {
+                    x.flushSome(1, 1).write(i % 12, 100 + i, 20);
+                }
+                x.holdsFirst(20 + rounds).write(0, 1, Run.FULL).durable(rounds);
+                x.crash(kept, 20 - kept).holdsFirst(rounds + kept).durable(rounds + kept);
+            }
         }
-        x.write(0, 1, Run.FULL).durable(120);
-        x.crash(19, 1).durable(139).gives(7, 100 + 127).gives(6, 100 + 138).gives(8, 100 + 128);
-
+        // Three places taken at a time, and the third write lost.
         Run y = new Run();
         for (int i = 0; i < 50; i++) {
             y.write(3, 7 * i, 1).write(3, 7 * i + 1, 2).write(3, 7 * i + 2, 3);
@@ -317,7 +322,9 @@ public final class TermsBoundaryTest {
         // Damage can come again.
         x.damage(5, 8, 1).fails(5).scrub(1);
         for (int s = 0; s < 12; s++) {
-            new Run().damage(s, 1, 1).write(s, s, 1).flush(1).scrub(0).gives(s, s);
+            new Run().damage(s, 1, 1).write(s, s, 1).flush(1).scrub(0).gives(s, s)
+                .damage(s, 1, 1).write(s, -s, 1).flushSome(1, 1).scrub(0).gives(s, -s)
+                .damage(s, 1, 1).write(s, s, 1).crash(1, 0).scrub(0).gives(s, s);
         }
     }
 
